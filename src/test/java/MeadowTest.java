@@ -220,9 +220,15 @@ public final class MeadowTest {
     DUE.is("two beside count once: worth(6, 1)", x.worth(6, 1), 15);
     DUE.is("one beside below: worth(7, 1)", x.worth(7, 1), 110);
     DUE.is("row's end is no neighbour: worth(5, 1)", x.worth(5, 1), 0);
+    x.buyer(0, 1000, 9);
+    int[] away = {4, 3, 2, 1, 2, 3, 3, 2, 1, 0, 1, 2, 4, 3, 2, 1, 2, 3, 5, 4, 3, 2, 3, 4};
+    for (int p = 2; p < 23; p++) {
+      x.plot(p, 0, 50);
+      DUE.is("from 9: worth(" + p + ", 2)", x.worth(p, 2), 400 - 5 * away[p]);
+    }
     DUE.is("worth(24, 0)", x.worth(24, 0), -1);
     DUE.is("worth(-1, 0)", x.worth(-1, 0), -1);
-    DUE.is("worth(0, 2)", x.worth(0, 2), -1);
+    DUE.is("worth(0, 3)", x.worth(0, 3), -1);
     DUE.is("worth(0, -1)", x.worth(0, -1), -1);
     edges();
   }

@@ -112,6 +112,11 @@ public final class MowingTest {
     DUE.is("owed together: about(0, 6)", x.about(0, 6), 16);
     DUE.is("cut(0)", x.cut(0), 0);
     DUE.is("look(0, 7)", x.look(0, 7), 0);
+    CandleMeadow z = sold(1, 50);
+    z.plot(0, 3, 1);
+    DUE.is("one load, beside: candle(0, 1, 0)", z.candle(0, 1, 0), 5);
+    DUE.is("one load stands: look(0, 7)", z.look(0, 7), 1);
+    DUE.is("one load: cut(0)", z.cut(0), 0);
     CandleMeadow y = sold(1, 50);
     DUE.is("bare, but beside: candle(0, 1, 0)", y.candle(0, 1, 0), 5);
     DUE.is("without grass: cut(0)", y.cut(0), -3);

@@ -10,6 +10,7 @@ public final class SaleTest {
     wins();
     lots();
     ring();
+    tenBuyers();
     DUE.end();
   }
 
@@ -113,6 +114,10 @@ public final class SaleTest {
   }
 
   private static void wins() {
+    CandleMeadow alone = new CandleMeadow();
+    alone.plot(0, 0, 10);
+    alone.buyer(0, 100, 0);
+    DUE.is("all of 1 .. 60: wins(0, 0, 0)", alone.wins(0, 0, 0), 60);
     CandleMeadow x = three();
     DUE.is("wins(0, 0, 0)", x.wins(0, 0, 0), 20);
     DUE.is("wins(0, 0, 1)", x.wins(0, 0, 1), 20);
@@ -194,6 +199,23 @@ public final class SaleTest {
     DUE.is("15 for 15: candle(8, 60, 0)", x.candle(8, 60, 0), 15);
     DUE.is("ring()", x.ring(), -20);
     shortSteps();
+  }
+
+  private static void tenBuyers() {
+    CandleMeadow x = new CandleMeadow();
+    x.plot(0, 0, 100);
+    for (int b = 0; b < 10; b++) {
+      x.buyer(0, 100 + b, 0);
+      x.waits(b, true);
+    }
+    DUE.is("lots(0)", x.lots(0), 109);
+    DUE.is("lotter(0)", x.lotter(0), 9);
+    DUE.is("wins(0, 9, 9)", x.wins(0, 9, 9), 15);
+    DUE.is("the last 30 of 60, as far as 105: candle(0, 60, 9)", x.candle(0, 60, 9), 105);
+    DUE.is("breath 50: look(0, 4)", x.look(0, 4), 9);
+    DUE.is("ring()", x.ring(), -4);
+    DUE.is("pays(9, 0)", x.pays(9, 0), 105);
+    DUE.is("pays(8, 1)", x.pays(8, 1), 0);
   }
 
   /** The steps of a candle can end short of what lots bring from the same purses. */
