@@ -18,7 +18,8 @@ public final class FaceTest {
 
   public static void main(String[] args) throws NoSuchMethodException {
     Class<?> face = CandleMeadow.class;
-    DUE.is("public and final", face.getModifiers() & (Modifier.PUBLIC | Modifier.FINAL), Modifier.PUBLIC | Modifier.FINAL);
+    DUE.is("public", face.getModifiers() & Modifier.PUBLIC, Modifier.PUBLIC);
+    DUE.is("final", face.getModifiers() & Modifier.FINAL, Modifier.FINAL);
     methods(face);
     DUE.is("constructors", face.getDeclaredConstructors().length, 1);
     DUE.is("public constructors", face.getConstructors().length, 1);
