@@ -3,8 +3,11 @@ import java.util.Random;
 /** All promises: many runs of calls, drawn from a written seed, with the answers of the plain model beside them. */
 public final class ModelTest {
   private static final Due DUE = new Due();
-  private static final int RUNS = 400;
+  private static final int RUNS = 2000;
+  /** An object answers for no more calls than these. */
   private static final int CALLS = 512;
+  private static final int QUESTIONS = 252;
+  private static final int PARTS = 5;
 
   private final Random random;
   private final CandleMeadow x = new CandleMeadow();
@@ -25,7 +28,9 @@ public final class ModelTest {
 
   private void play(int seed) {
     boolean quiet = seed % 2 == 0;
-    for (int c = 0; c < CALLS; c++) {
+    int part = seed % PARTS;
+    int drawn = part == 0 ? CALLS : CALLS - QUESTIONS;
+    for (int c = 0; c < drawn; c++) {
       int kind = random.nextInt(100);
       if (quiet && c < 40) {
         settle(c);
@@ -36,10 +41,8 @@ public final class ModelTest {
       } else {
         shelve();
       }
-      if (c % 64 == 63) {
-        compareAll();
-      }
     }
+    compare(part);
   }
 
   /** Mostly a number of the range, now and then one beside it or far out. */
@@ -223,8 +226,18 @@ public final class ModelTest {
     }
   }
 
-  /** All that can be seen, so that a refused call, or one that only tells, is caught if it changed something. */
-  private void compareAll() {
+  /** What can be seen, so that a refused call, or one that only tells, is caught if it changed something. */
+  private void compare(int part) {
+    switch (part) {
+      case 1: comparePlots(); break;
+      case 2: compareBuyers(); break;
+      case 3: compareShelves(0); break;
+      case 4: compareShelves(4); break;
+      default:
+    }
+  }
+
+  private void comparePlots() {
     for (int p = 0; p < 24; p++) {
       for (int w = 0; w < 8; w++) {
         is(told("look", p, w), x.look(p, w), m.look(p, w));
@@ -232,23 +245,30 @@ public final class ModelTest {
       is(told("dry", p), x.dry(p), m.dry(p));
       is(told("barn", p), x.barn(p), m.barn(p));
     }
+  }
+
+  private void compareBuyers() {
     for (int b = 0; b < 10; b++) {
       for (int w = 0; w < 8; w++) {
         is(told("about", b, w), x.about(b, w), m.about(b, w));
         is(told("pays", b, w), x.pays(b, w), m.pays(b, w));
       }
     }
-    for (int d = 0; d < 8; d++) {
+    for (int w = 0; w < 7; w++) {
+      is(told("count", w), x.count(w), m.count(w));
+      is(told("order", w), x.order(w), m.order(w));
+    }
+    is("ring()", x.ring(), m.ring());
+    is("best()", x.best(), m.best());
+  }
+
+  private void compareShelves(int first) {
+    for (int d = first; d < first + 4; d++) {
       is(told("weight", d), x.weight(d), m.weight(d));
       is(told("toss", d), x.toss(d), m.toss(d));
       for (int i = 0; i <= 60; i++) {
         DUE.says(run + told("element", d, i), Due.element(x, d, i), m.element(d, i));
       }
     }
-    for (int w = 0; w < 7; w++) {
-      is(told("count", w), x.count(w), m.count(w));
-    }
-    is("ring()", x.ring(), m.ring());
-    is("best()", x.best(), m.best());
   }
 }
